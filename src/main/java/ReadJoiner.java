@@ -9,6 +9,8 @@ public final class ReadJoiner {
     private static final int SYMBOL_KINDS = 4;
     // The orders in which five reads can be put: 5 * 4 * 3 * 2 * 1.
     private static final int ORDERS = 120;
+    // A bit for each read there can be.
+    private static final int ALL_READS = 31;
 
     // Read i has its symbols from place i * MAX_READ_LENGTH on.
     private final int[] symbols = new int[MAX_JOIN_LENGTH];
@@ -86,12 +88,12 @@ public final class ReadJoiner {
     }
 
     public int shortest() {
-        findJoin((1 << count) - 1);
+        findJoin(ALL_READS);
         return joinLength;
     }
 
     public int symbolAt(int k) {
-        findJoin((1 << count) - 1);
+        findJoin(ALL_READS);
         return k >= 0 && k < joinLength ? join[k] : NONE;
     }
 
@@ -99,7 +101,7 @@ public final class ReadJoiner {
         if (!isRead(i)) {
             return NONE;
         }
-        findJoin((1 << count) - 1);
+        findJoin(ALL_READS);
         return placeIn(join, 0, joinLength, i);
     }
 
@@ -107,7 +109,7 @@ public final class ReadJoiner {
         if (!isRead(i)) {
             return NONE;
         }
-        findJoin(((1 << count) - 1) & ~(1 << i));
+        findJoin(ALL_READS & ~(1 << i));
         return joinLength;
     }
 
@@ -123,7 +125,7 @@ public final class ReadJoiner {
         if (!isRead(i)) {
             return false;
         }
-        findJoin((1 << count) - 1);
+        findJoin(ALL_READS);
         for (int at = 0; at + lengths[i] <= joinLength; at++) {
             if (reverseStandsAt(at, i)) {
                 return true;
@@ -164,21 +166,24 @@ public final class ReadJoiner {
         return true;
     }
 
-    /** The least place, counted from from, at which read j stands in the n symbols of text there, or NONE. */
-    private int placeIn(int[] text, int from, int n, int j) {
+    // A text, here and in overlapWith, is the n symbols of an array from start on, so that one method does for
+    // reads and for joins alike.
+
+    /** The least place in the text at which read j stands, or NONE. */
+    private int placeIn(int[] text, int start, int n, int j) {
         for (int at = 0; at + lengths[j] <= n; at++) {
-            if (sameSymbols(text, from + at, j * MAX_READ_LENGTH, lengths[j])) {
+            if (sameSymbols(text, start + at, j * MAX_READ_LENGTH, lengths[j])) {
                 return at;
             }
         }
         return NONE;
     }
 
-    /** The overlap of the n symbols of text from from on with read j. */
-    private int overlapWith(int[] text, int from, int n, int j) {
+    /** The greatest number of symbols that both end the text and begin read j. */
+    private int overlapWith(int[] text, int start, int n, int j) {
         int most = n < lengths[j] ? n : lengths[j];
         for (int k = most; k > 0; k--) {
-            if (sameSymbols(text, from + n - k, j * MAX_READ_LENGTH, k)) {
+            if (sameSymbols(text, start + n - k, j * MAX_READ_LENGTH, k)) {
                 return k;
             }
         }
@@ -186,7 +191,7 @@ public final class ReadJoiner {
     }
 
     /**
-     * Leaves in join the first join of the reads whose bits are set in chosen.
+     * Leaves in join the first join of those reads whose bits are set in chosen.
      *
      * Every shortest string is met: it is what joinInOrder makes of its reads in the order of their
      * places in it, with those that another read contains put last.
@@ -221,7 +226,8 @@ public final class ReadJoiner {
         trialLength = 0;
         for (int p = 0; p < MAX_READS; p++) {
             int r = order[p];
-            if ((chosen >> r & 1) == 1 && placeIn(trial, 0, trialLength, r) == NONE) {
+            boolean isChosen = r < count && (chosen >> r & 1) == 1;
+            if (isChosen && placeIn(trial, 0, trialLength, r) == NONE) {
                 int shared = overlapWith(trial, 0, trialLength, r);
                 extendTrial(r, shared);
             }

@@ -1,3 +1,5 @@
+import java.util.Arrays;
+
 /** Each promise of the document by hand: ordinary inputs, the edges that it names, and wrong inputs. */
 public final class PromisesTest {
     private static final int[] NO_READ = {-1, 5, 6, 32, -32, Integer.MIN_VALUE, Integer.MAX_VALUE};
@@ -246,7 +248,24 @@ public final class PromisesTest {
         due("10: no overlap at all", of("000002", "111112", "100002", "300002", "110002").shortest(), 30);
         due("10: a ring of three", of("0111", "1112", "2011").shortest(), 6);
         due("10: greatest overlap first would make 10", of("20101", "01012", "1010").shortest(), 8);
+        everyOrderIsTried();
         due("10: chain", of("3012", "0123", "1230", "2301").shortest(), 7);
+    }
+
+    /** Five reads that fit together in one order alone, numbered in each of the 120 ways. */
+    private static void everyOrderIsTried() {
+        String[] chain = {"213323", "232023", "230111", "110200", "000030"};
+        for (int code = 0; code < 3125; code++) {
+            int[] digits = {code % 5, code / 5 % 5, code / 25 % 5, code / 125 % 5, code / 625};
+            if (Arrays.stream(digits).distinct().count() == 5) {
+                String[] turned = new String[5];
+                for (int i = 0; i < 5; i++) {
+                    turned[i] = chain[digits[i]];
+                }
+                due("10: order " + code, of(turned).shortest(), 22);
+                due("11: order " + code, join(of(turned)), "2133232023011102000030");
+            }
+        }
     }
 
     private static void symbolAt() {

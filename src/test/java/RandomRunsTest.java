@@ -18,6 +18,7 @@ public final class RandomRunsTest {
     private final Random random;
     private final int kinds;
     private final int chanceOfChange;
+    private final boolean startsFull;
     private final String name;
     private final ReadJoiner x = new ReadJoiner();
     private final List<String> model = new ArrayList<>();
@@ -28,6 +29,7 @@ public final class RandomRunsTest {
         random = new Random(run);
         kinds = 1 + run % 4;
         chanceOfChange = 10 + 20 * (run % 5);
+        startsFull = run % 3 != 0;
         name = "run " + run;
     }
 
@@ -42,7 +44,8 @@ public final class RandomRunsTest {
     }
 
     private void go() {
-        for (int call = 0; call < CALLS && wrong < 20; call++) {
+        int call = startsFull ? fill() : 0;
+        for (; call < CALLS && wrong < 20; call++) {
             if (random.nextInt(100) < chanceOfChange) {
                 change();
                 joinIsKnown = false;
@@ -50,6 +53,24 @@ public final class RandomRunsTest {
                 ask();
             }
         }
+    }
+
+    /** Five long reads, which the changes alone seldom lead to; answers the number of calls made. */
+    private int fill() {
+        int calls = 0;
+        for (int i = 0; i < 5; i++) {
+            due("begin()", x.begin(), i);
+            model.add("");
+            calls++;
+            for (int n = 3 + random.nextInt(4); n > 0; n--) {
+                int v = random.nextInt(kinds);
+                due("append(" + i + ", " + v + ")", x.append(i, v), true);
+                model.set(i, model.get(i) + v);
+                calls++;
+            }
+        }
+        joinIsKnown = false;
+        return calls;
     }
 
     private int someIndex() {
