@@ -11,7 +11,8 @@ public final class PromisesTest {
         append();
         back();
         remove();
-        readsAndLength();
+        reads();
+        length();
         overlap();
         contains();
         shortest();
@@ -169,26 +170,43 @@ public final class PromisesTest {
         due("5: shortest", x.shortest(), 0);
     }
 
-    private static void readsAndLength() {
+    private static void reads() {
         ReadJoiner x = new ReadJoiner();
         for (int i = 0; i < 5; i++) {
             due("6: before", x.reads(), i);
-            due("7: not yet there", x.length(i), -1);
             x.begin();
             due("6: after", x.reads(), i + 1);
+            x.append(i, 1);
+            due("6: a symbol is no read", x.reads(), i + 1);
+        }
+        x.begin();
+        due("6: at most five", x.reads(), 5);
+        x.back(0);
+        due("6: an emptied read counts", x.reads(), 5);
+        x.remove(2);
+        due("6: after remove", x.reads(), 4);
+        x.remove(4);
+        due("6: after a wrong remove", x.reads(), 4);
+    }
+
+    private static void length() {
+        ReadJoiner x = new ReadJoiner();
+        for (int i = 0; i < 5; i++) {
+            due("7: not yet there", x.length(i), -1);
+            x.begin();
             for (int n = 0; n <= 6; n++) {
                 due("7: length", x.length(i), n);
                 x.append(i, 1);
             }
             due("7: length when full", x.length(i), 6);
         }
-        x.begin();
-        due("6: at most five", x.reads(), 5);
         for (int i : NO_READ) {
             due("7: no read " + i, x.length(i), -1);
         }
+        x.back(3);
+        due("7: after back", x.length(3), 5);
         x.remove(2);
-        due("6: after remove", x.reads(), 4);
+        due("7: moved down", x.length(2), 5);
         due("7: removed", x.length(4), -1);
     }
 
